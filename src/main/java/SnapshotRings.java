@@ -223,7 +223,7 @@ public final class SnapshotRings {
         if (!isConstraint(constraint)) {
             return NO_SUCH;
         }
-        return state.isKeptBy(state.values, 0, constraint) ? 1 : 0;
+        return state.constraintIsMet(state.values, 0, constraint) ? 1 : 0;
     }
 
     public int holdsFor(int slot, int constraint) {
@@ -234,7 +234,7 @@ public final class SnapshotRings {
         if (!isConstraint(constraint)) {
             return NO_SUCH;
         }
-        return state.isKeptBy(state.seenValues, slot * KEYS, constraint) ? 1 : 0;
+        return state.constraintIsMet(state.seenValues, slot * KEYS, constraint) ? 1 : 0;
     }
 
     // ---- forecasts; they change nothing
@@ -248,7 +248,7 @@ public final class SnapshotRings {
         }
         int held = 0;
         for (int constraint = 0; constraint < CONSTRAINTS; constraint++) {
-            if (forecast.isKeptBy(forecast.values, 0, constraint)) {
+            if (forecast.constraintIsMet(forecast.values, 0, constraint)) {
                 held++;
             }
         }
@@ -632,7 +632,7 @@ public final class SnapshotRings {
         }
 
         /** Whether the constraint holds with the KEYS values that begin at the index. */
-        boolean isKeptBy(int[] numbers, int from, int constraint) {
+        boolean constraintIsMet(int[] numbers, int from, int constraint) {
             int sum = 0;
             for (int key = 0; key < KEYS; key++) {
                 if (hasBit(summedKeys[constraint], key)) {

@@ -17,6 +17,12 @@ public final class RandomRunsTest {
     private final int wildOf1000;
     private final int asksOf100;
     private final int textsOf100;
+    private final int aimedOf100;
+    private final int commitsOf100;
+    // These slots commit seldom, so that their snapshots are old and their rings long.
+    private final int slowSlots;
+    // Then a slot writes one key alone, so that few are refused by the reason 1.
+    private final boolean ownKeys;
     private final StringBuilder told = new StringBuilder();
     private int calls = 0;
 
@@ -27,6 +33,10 @@ public final class RandomRunsTest {
         wildOf1000 = random.nextInt(4) * 15;
         asksOf100 = 10 + random.nextInt(50);
         textsOf100 = random.nextInt(3) * 2;
+        aimedOf100 = random.nextInt(4) * 32;
+        commitsOf100 = 10 + random.nextInt(50);
+        slowSlots = random.nextInt(256) & random.nextInt(256);
+        ownKeys = random.nextBoolean();
         check.part("run " + seed);
     }
 
@@ -47,6 +57,8 @@ public final class RandomRunsTest {
                 ask();
             } else if (random.nextInt(100) < textsOf100) {
                 typeSchedule();
+            } else if (random.nextInt(100) < aimedOf100) {
+                changeAimed();
             } else {
                 change();
             }
@@ -107,6 +119,30 @@ public final class RandomRunsTest {
             due("abort(" + slot + ")", store.abort(slot), naive.abort(slot));
         } else {
             due("undo()", store.undo(), naive.undo());
+        }
+    }
+
+    /** A change that is possible: a free slot begins, an open one reads, writes or ends. */
+    private void changeAimed() {
+        int slot = random.nextInt(slots);
+        int key = random.nextInt(keys);
+        if (random.nextInt(60) == 0) {
+            for (int times = random.nextInt(8); times >= 0; times--) {
+                due("undo()", store.undo(), naive.undo());
+            }
+        } else if (naive.of(slot, 0) < 0) {
+            due("begin(" + slot + ")", store.begin(slot), naive.begin(slot));
+        } else if (random.nextInt(100) < commitsOf100) {
+            if ((slowSlots >> slot & 1) == 0 || random.nextInt(12) == 0) {
+                due("commit(" + slot + ")", store.commit(slot), naive.commit(slot));
+            }
+        } else if (random.nextInt(100) < 60) {
+            due("read(" + slot + ", " + key + ")", store.read(slot, key), naive.read(slot, key));
+        } else {
+            int value = random.nextInt(12) - 5;
+            key = ownKeys ? slot % keys : key;
+            due("write(" + slot + ", " + key + ", " + value + ")",
+                store.write(slot, key, value), naive.write(slot, key, value));
         }
     }
 
