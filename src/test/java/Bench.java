@@ -179,25 +179,27 @@ abstract class Bench {
 
     private static void lookAtTransactions(SnapshotRings store, List<Long> seen) {
         for (int slot = 0; slot < 8; slot++) {
-            for (int index = 1; index <= 16; index++) {
-                seen.add((long) store.ringOf(slot, index));
+            seen.add((long) store.ringOf(slot, 1));
+            if (store.of(slot, 0) == NO_SUCH) {
+                continue;
             }
             for (int key = 0; key < 12; key++) {
                 seen.add((long) store.read(slot, key));
-                seen.add((long) store.of(slot, 1));
             }
         }
     }
 
     private static void lookAtConstraints(SnapshotRings store, List<Long> seen) {
         store.begin(0);
-        for (int constraint = 0; constraint < 3; constraint++) {
-            for (int key = 0; key < 12; key++) {
-                for (int value : new int[] {-999, 999, 0}) {
-                    store.write(0, key, value);
+        for (int key = 0; key < 12; key++) {
+            for (int value : new int[] {-999, 999, 0}) {
+                store.write(0, key, value);
+                for (int constraint = 0; constraint < 3; constraint++) {
                     seen.add((long) store.holdsFor(0, constraint));
                 }
             }
+        }
+        for (int constraint = 0; constraint < 3; constraint++) {
             seen.add((long) store.setConstraint(constraint, 0, 0));
         }
     }

@@ -149,6 +149,7 @@ public final class Promises23To28Test extends Bench {
     }
 
     private void dueError(String text, int want) {
+        x = new SnapshotRings();
         text(text);
         due("syntaxError of " + text, x.syntaxError(), want);
     }
@@ -184,6 +185,7 @@ public final class Promises23To28Test extends Bench {
     private void dueNext(String begun, String next) {
         for (int code = 33; code <= 126; code++) {
             String text = begun + (char) code;
+            x = new SnapshotRings();
             text(text);
             boolean possible = next.indexOf(code) >= 0;
             int error = x.syntaxError();
@@ -246,9 +248,9 @@ public final class Promises23To28Test extends Bench {
         for (String text : texts) {
             dueError(text, NONE);
             due("syntaxError again", x.syntaxError(), NONE);
+            due("undo", x.undo(), NOT_POSSIBLE);
+            due("count(1)", x.count(1), 0);
         }
-        due("undo", x.undo(), NOT_POSSIBLE);
-        due("count(1)", x.count(1), 0);
     }
 
     private void leftToRight() {
@@ -487,6 +489,18 @@ public final class Promises23To28Test extends Bench {
         addTimes(list, 15, NONE);
         add(list, 1, 0, 1);
         due("digest with a refused one", x.digest(), hash(list));
+        // All eight slots.
+        fresh("b0 b1 b2 b3 b4 b5 b6 b7");
+        list.clear();
+        add(list, 0, 8, 0, 0, 0, 0, 0, 0);
+        addTimes(list, 24, 0);
+        for (int slot = 0; slot <= 7; slot++) {
+            add(list, slot, 0, 0, 0, 0, 1, 1, 1);
+        }
+        add(list, 0);
+        addTimes(list, 16, NONE);
+        add(list, 1, 1, 1);
+        due("digest with eight open ones", x.digest(), hash(list));
     }
 
     private void digestOfCommits() {

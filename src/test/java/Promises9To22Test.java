@@ -295,8 +295,11 @@ public final class Promises9To22Test extends Bench {
     }
 
     private void keptOfCommit() {
-        for (int number = 1; number <= 40; number++) {
-            play("b0 r0" + (char) ('a' + number % 12) + " c0");
+        for (int number : new int[] {1, 2, 15, 16, 17, 18, 31, 32, 33}) {
+            x = new SnapshotRings();
+            for (int i = 1; i <= number; i++) {
+                play("b0 r0" + (char) ('a' + i % 12) + " c0");
+            }
             for (int kept = Math.max(1, number - 15); kept <= number; kept++) {
                 due("ofCommit(" + kept + ", 0)", x.ofCommit(kept, 0), kept - 1);
                 due("ofCommit(" + kept + ", 1)", x.ofCommit(kept, 1), 1 << kept % 12);

@@ -3,6 +3,8 @@ import java.util.Random;
 /** The same runs of calls on SnapshotRings and on the naive store, which must answer the same. */
 public final class RandomRunsTest {
     private static final int RUNS = 1200;
+    // An object is used for at most so many calls; a round of the loop makes up to 8 of them, and a
+    // schedule that is typed as many as there is room for.
     private static final int CALLS = 512;
     private static final int[] WILD = {Integer.MIN_VALUE, Integer.MAX_VALUE, -1, 0, 1, 2, 3, 4, 7, 8, 11,
         12, 31, 32, 33, 40, 79, 80, 126, 127, 255, 256, 998, 999, 1000, -999, -1000, 4095, 4096, 9999,
@@ -45,14 +47,14 @@ public final class RandomRunsTest {
         for (int seed = 0; seed < RUNS && wrong == 0; seed++) {
             wrong += new RandomRunsTest(seed).run();
         }
-        System.out.println("RandomRunsTest: " + RUNS + " runs of " + CALLS + " calls");
+        System.out.println("RandomRunsTest: " + RUNS + " runs of up to " + CALLS + " calls");
         if (wrong != 0) {
             System.exit(1);
         }
     }
 
     private int run() {
-        while (calls < CALLS && check.wrong() == 0) {
+        while (calls < CALLS - 8 && check.wrong() == 0) {
             if (random.nextInt(100) < asksOf100) {
                 ask();
             } else if (random.nextInt(100) < textsOf100) {
@@ -213,7 +215,7 @@ public final class RandomRunsTest {
         if (random.nextInt(8) == 0) {
             text.setLength(random.nextInt(text.length()) + 1);
         }
-        for (int i = 0; i < text.length(); i++) {
+        for (int i = 0; i < text.length() && calls < CALLS - 6; i++) {
             int code = random.nextInt(4000) < wildOf1000 ? argument(128) : text.charAt(i);
             due("type(" + code + ")", store.type(code), naive.type(code));
             if (random.nextInt(10) == 0) {

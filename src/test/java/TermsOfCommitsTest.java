@@ -382,6 +382,7 @@ public final class TermsOfCommitsTest extends Bench {
     }
 
     private void dueError(String text, int want) {
+        x = new SnapshotRings();
         text(text);
         due("syntaxError of " + text, x.syntaxError(), want);
     }

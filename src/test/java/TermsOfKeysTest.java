@@ -331,6 +331,10 @@ public final class TermsOfKeysTest extends Bench {
             due("no same key", x.dependency(a, 4), 0);
             due("no same key", x.dependency(4, a), 0);
         }
+        for (char key = 'a'; key <= 'l'; key++) {
+            fresh("b0 w0" + key + "=1 c0 b1 w1" + key + "=1 c1");
+            due("both wrote " + key, x.dependency(1, 2), 1);
+        }
     }
 
     private void readVersion() {
@@ -347,6 +351,11 @@ public final class TermsOfKeysTest extends Bench {
         due("dependency(2, 5)", x.dependency(2, 5), 0);
         due("dependency(2, 6)", x.dependency(2, 6), 1);
         due("dependency(1, 2)", x.dependency(1, 2), 1);
+        for (char key = 'a'; key <= 'l'; key++) {
+            fresh("b0 w0" + key + "=1 c0 b0 w0" + key + "=1 c0 b0 r0" + key + " c0");
+            due("3 read the version 1 of " + key, x.dependency(1, 3), 0);
+            due("3 read the version 2 of " + key, x.dependency(2, 3), 2);
+        }
     }
 
     private void readLower() {
@@ -362,6 +371,11 @@ public final class TermsOfKeysTest extends Bench {
             due("of a commit ahead", x.dependency(reader, 6), 4);
             due("another key", x.dependency(reader, 7), 0);
             due("the other way round", x.dependency(6, reader), 0);
+        }
+        for (char key = 'a'; key <= 'l'; key++) {
+            fresh("b0 r0" + key + " b1 w1" + key + "=1 c1 b2 r2" + key + " c0 c2");
+            due("2 read the version 0 of " + key, x.dependency(2, 1), 4);
+            due("3 read the version 1 of " + key, x.dependency(3, 1), 0);
         }
     }
 
@@ -540,6 +554,9 @@ public final class TermsOfKeysTest extends Bench {
         dueRing(0, 1, 2, 3);
         play("b1 w1d=1 c1 b1 r1d r1e c1");
         dueRing(0, 4, 5);
+        // 1 and 2 are both ahead of the slot 0, and the ring is by the first of them.
+        fresh("b0 r0a w0e=1 b3 r3b w3a=1 b1 r1e w1b=1 c1 b2 r2e c2 c3");
+        dueRing(0, 3, 1);
     }
 
     private void firstOfShortest() {

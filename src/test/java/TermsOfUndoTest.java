@@ -27,6 +27,8 @@ public final class TermsOfUndoTest extends Bench {
         sentence("The state is everything", this::stateHasSettings);
         sentence("The state is everything", this::stateHasTransactions);
         sentence("The state is everything", this::stateHasCommits);
+        sentence("The state is everything", this::stateHasKeys);
+        sentence("The state is everything", this::stateHasKeptCommits);
         sentence("The state is everything", this::stateHasCounts);
         sentence("except the text", this::exceptText);
         sentence("and the saved states.", this::exceptSavedStates);
@@ -323,6 +325,51 @@ public final class TermsOfUndoTest extends Bench {
         due("commits", x.count(0), 17);
         x.undo();
         due("dependency(2, 1)", x.dependency(2, 1), 4);
+    }
+
+    private void stateHasKeys() {
+        play("b0 w0a=1 w0b=2 w0c=3 w0d=4 w0e=5 w0f=6 w0g=7 w0h=8 w0i=9 w0j=10 w0k=11 w0l=12 c0 b0 b1");
+        for (int key = 0; key <= 11; key++) {
+            x.write(1, key, 50 + key);
+        }
+        due("commit(1)", x.commit(1), 2);
+        due("undo", x.undo(), 5);
+        for (int key = 0; key <= 11; key++) {
+            due("value", x.value(key), key + 1);
+            due("version", x.version(key), 1);
+            due("what the slot 0 sees", x.read(0, key), key + 1);
+            due("what the slot 1 wrote", x.read(1, key), 50 + key);
+        }
+        // And the versions of the reads, of a slot that has begun anew since.
+        for (char key = 'a'; key <= 'l'; key++) {
+            fresh("b7 r7" + key + " b0 w0" + key + "=1 c0 a7 b7 r7" + key);
+            x.undo();
+            x.undo();
+            x.undo();
+            play("c7");
+            due("dependency(2, 1) by " + key, x.dependency(2, 1), 4);
+            due("dependency(1, 2) by " + key, x.dependency(1, 2), 0);
+        }
+    }
+
+    private void stateHasKeptCommits() {
+        // Each commit reads and writes l; the one that is pushed out by the next comes back.
+        for (int number = 1; number <= 32; number++) {
+            play("b0 r0l w0l=" + number + " c0");
+            if (number < 15) {
+                continue;
+            }
+            int oldest = Math.max(1, number - 15);
+            play("b0 r0a c0");
+            due("the oldest", x.ofCommit(oldest, 0), number == 15 ? 0 : NO_SUCH);
+            x.undo();
+            x.undo();
+            x.undo();
+            due("snapshot", x.ofCommit(oldest, 0), oldest - 1);
+            due("reads", x.ofCommit(oldest, 1), 2048);
+            due("writes", x.ofCommit(oldest, 2), 2048);
+            due("dependency", x.dependency(oldest, oldest + 1), 7);
+        }
     }
 
     private void stateHasCounts() {
