@@ -39,6 +39,7 @@ public final class Promises23To28Test extends Bench {
 
     private void carryingOut() {
         sentence("26: Carries out the steps of the text from left to right", this::leftToRight);
+        sentence("26: Carries out the steps of the text", this::lastStep);
         sentence("26: up to the first one whose method (begin, read, write, commit or abort) would return an error "
             + "code.", this::upToFirstError);
         sentence("26: The text becomes empty.", this::textBecomesEmpty);
@@ -267,6 +268,31 @@ public final class Promises23To28Test extends Bench {
         carry(FULL);
         due("count(0)", x.count(0), 15);
         due("of(0, 0)", x.of(0, 0), 15);
+    }
+
+    /** Steps that end with the text, also with a full one, and that follow a longer text. */
+    private void lastStep() {
+        String[] full = {"b0" + ";w0a=1".repeat(13), "b0;w0a=123" + ";w0a=12".repeat(10),
+            "b0" + ";w0a=12".repeat(10) + ";w0a=-12", "b0;c0;b0" + ";w0a=1".repeat(11) + ";w0a=7",
+            "b0;b1" + ";w0a=12".repeat(9) + ";w0a=-345;a1"};
+        int[] values = {1, 12, -12, 7, -345};
+        for (int i = 0; i < full.length; i++) {
+            x = new SnapshotRings();
+            due("length of " + full[i], full[i].length(), 80);
+            carry(full[i]);
+            due("the last value of " + full[i], x.read(0, 0), values[i]);
+        }
+        // What is left of an earlier text belongs to no step.
+        fresh("b0");
+        carry("w0a=789;w0b=-56");
+        carry("w0a=1");
+        due("read(0, 0)", x.read(0, 0), 1);
+        text("w0a=-234;b1");
+        x.clearText();
+        carry("w0a=-9");
+        due("read(0, 0)", x.read(0, 0), -9);
+        carry("w0a=56");
+        due("read(0, 0)", x.read(0, 0), 56);
     }
 
     private void upToFirstError() {

@@ -41,6 +41,7 @@ public final class Promises9To22Test extends Bench {
         sentence("13: 0 for its snapshot, 1 for the set of its reads, 2 for the set of its writes (bit masks)",
             this::setsOfCommit);
         sentence("13: NO_SUCH if there is no such commit, or if it is not kept;", this::noSuchCommit);
+        sentence("13: or if it is not kept;", this::eachOldCommit);
         sentence("13: BAD_VALUE if what is out of range.", this::badOfCommit);
     }
 
@@ -336,6 +337,19 @@ public final class Promises9To22Test extends Bench {
         }
     }
 
+    /** Each number of 40 commits, of which 24 are not kept any more. */
+    private void eachOldCommit() {
+        emptyCommits(40);
+        for (int commit = 1; commit <= 40; commit++) {
+            boolean kept = commit >= 25;
+            due("ofCommit(" + commit + ", 0)", x.ofCommit(commit, 0), kept ? commit - 1 : NO_SUCH);
+            int other = commit == 40 ? 39 : 40;
+            due("dependency of " + commit, x.dependency(commit, other), kept ? 0 : NO_SUCH);
+            due("dependency on " + commit, x.dependency(other, commit), kept ? 0 : NO_SUCH);
+            due("dependency on itself", x.dependency(commit, commit), kept ? BAD_VALUE : NO_SUCH);
+        }
+    }
+
     private void badOfCommit() {
         emptyCommits(17);
         for (int commit = 2; commit <= 17; commit += 15) {
@@ -459,6 +473,11 @@ public final class Promises9To22Test extends Bench {
         // One that is behind a ring, and one that is ahead of it, are in none; open ones do not count.
         fresh("b5 r5a " + SKEW + " c0 c1 b2 r2a c2 c5 " + SKEW + " c0");
         due("a ring of two among five", x.inRings(), 2);
+        // A ring that undo takes away counts no more.
+        fresh(SKEW + " c0 c1");
+        due("ahead of undo", x.inRings(), 2);
+        x.undo();
+        due("behind undo", x.inRings(), 0);
         // One commit in two rings counts once.
         fresh("b0 b1 b2 r0a r0b w0c=1 r1c w1a=1 r2c w2b=1 c0 c1 c2");
         due("two rings with a common commit", x.inRings(), 3);

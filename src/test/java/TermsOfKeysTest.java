@@ -36,6 +36,7 @@ public final class TermsOfKeysTest extends Bench {
         sentence("2 if b read the version of a key that a wrote;", this::readVersion);
         sentence("4 if a read a version of a key that is lower than b, and b wrote this key.", this::readLower);
         sentence("told as a sum of", this::allSums);
+        sentence("told as a sum of", this::severalKeysCountOnce);
         sentence("If the sum is not 0, a must come before b.", this::mustComeBefore);
         sentence("An open transaction has dependencies as if it was committed now, with the next number.",
             this::asIfCommittedNow);
@@ -47,6 +48,7 @@ public final class TermsOfKeysTest extends Bench {
         sentence("A ring is a sequence of different commits, at least two", this::atLeastTwo);
         sentence("in which each one must come before the next one, and the last one before the first one.",
             this::eachBeforeNext);
+        sentence("in which each one must come before the next one", this::ringsOverEachKind);
         sentence("A ring of a transaction is a ring of the kept commits and this transaction", this::longestRing);
         sentence("that begins with this transaction.", this::beginsWithTransaction);
         sentence("The ring that is told is the shortest one;", this::shortestRing);
@@ -392,6 +394,32 @@ public final class TermsOfKeysTest extends Bench {
         }
     }
 
+    /** A kind of dependency counts once in the sum, by however many keys it comes about. */
+    private void severalKeysCountOnce() {
+        for (int keys = 1; keys <= 12; keys++) {
+            String reads = ofKeys("r0", keys, "");
+            String writes = ofKeys("w0", keys, "=1");
+            fresh("b0 " + writes + "c0 b0 " + writes + "c0");
+            due("both wrote " + keys, x.dependency(1, 2), 1);
+            fresh("b0 " + writes + "c0 b0 " + reads + "c0");
+            due("2 read " + keys + " that 1 wrote", x.dependency(1, 2), 2);
+            fresh("b0 " + reads + "b1 " + ofKeys("w1", keys, "=1") + "c1 c0");
+            due("2 read " + keys + " lower than 1", x.dependency(2, 1), 4);
+            due("1 on 2", x.dependency(1, 2), 0);
+        }
+        fresh("b0 r0e r0f w0a=1 w0b=1 w0c=1 w0d=1 c0 b0 w0a=2 w0b=2 r0c r0d w0e=2 w0f=2 c0");
+        due("all kinds by two keys each", x.dependency(1, 2), 7);
+        due("the other way round", x.dependency(2, 1), 0);
+    }
+
+    private static String ofKeys(String begin, int keys, String end) {
+        StringBuilder steps = new StringBuilder();
+        for (int key = 0; key < keys; key++) {
+            steps.append(begin).append((char) ('a' + key)).append(end).append(' ');
+        }
+        return steps.toString();
+    }
+
     private void mustComeBefore() {
         // The commit 3 must come before 1, and 1 before 2 by one kind of dependency or by none.
         String[] kinds = {"w1b=1 c1 b2 w2b=1", "w1b=1 c1 b2 r2b", "r1b c1 b2 w2b=1"};
@@ -508,6 +536,26 @@ public final class TermsOfKeysTest extends Bench {
         play("c2");
         due("inRings", x.inRings(), 0);
         dueOrder(1, 2, 3);
+    }
+
+    /** A ring goes over each kind of dependency, and is looked for among the kept ones and with an open one. */
+    private void ringsOverEachKind() {
+        String[] kinds = {"w2d=2", "r2d", "w2d=2 r2d", "r2d w2d=2"};
+        int[] sums = {1, 2, 1, 3};
+        for (int kind = 0; kind < kinds.length; kind++) {
+            // 0 must come before 1 by a, 1 before 2 by the kind, and 2 before 0 by c.
+            fresh("b0 r0a w0c=1 b1 w1a=1 w1d=1 c1 b2 r2c " + kinds[kind] + " c2");
+            due("dependency(1, 2) by " + kinds[kind], x.dependency(1, 2), sums[kind]);
+            dueRing(0, 1, 2);
+            due("inRings without the open one", x.inRings(), 0);
+            dueOrder(1, 2);
+            play("c0");
+            due("dependency(2, 3)", x.dependency(2, 3), 4);
+            due("dependency(3, 1)", x.dependency(3, 1), 4);
+            due("inRings by " + kinds[kind], x.inRings(), 3);
+            due("orderAt(0)", x.orderAt(0), NONE);
+            due("skews", x.skews(), 0);
+        }
     }
 
     private void longestRing() {
